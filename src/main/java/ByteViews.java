@@ -696,14 +696,14 @@ public final class ByteViews {
             return start + (count - 1) * stride + kind.bytes;
         }
 
+        /** The last element that begins at the byte or ahead of it has it, if one has. */
         boolean covers(int offset) {
-            for (int i = 0; i < count; i++) {
-                int behind = offset - start - i * stride;
-                if (behind >= 0 && behind < kind.bytes) {
-                    return true;
-                }
+            int behind = offset - start;
+            if (behind < 0 || stride < 1) {
+                return false;
             }
-            return false;
+            int i = Math.min(behind / stride, count - 1);
+            return behind - i * stride < kind.bytes;
         }
 
         boolean differsAt(Bytes bytes, int i) {
@@ -760,17 +760,20 @@ public final class ByteViews {
         /** Orders bits by the values they mean; a NaN comes out as the one that a write lays. */
         void orderRow(long[] row) {
             for (int i = 0; i < count && i < row.length; i++) {
-                long value = valueOf(row[i]);
-                long key = orderOf(value);
+                long key = orderOf(valueOf(row[i]));
                 int to = i;
-                for (int k = i - 1; k >= 0 && orderOf(valueOf(row[k])) > key; k--) {
+                for (int k = i - 1; k >= 0 && row[k] > key; k--) {
                     row[k + 1] = row[k];
                     to = k;
                 }
-                row[to] = bitsOfValue(value, kind.floating);
+                row[to] = key;
+            }
+            for (int i = 0; i < count && i < row.length; i++) {
+                row[i] = bitsOfValue(orderOf(row[i]), kind.floating);
             }
         }
 
+        /** Values as longs that rise as the values do; done twice it gives the value again. */
         private long orderOf(long value) {
             return kind.floating ? Floats.orderOf(value) : value;
         }
