@@ -1096,7 +1096,7 @@ public final class ByteViews {
         }
 
         boolean isSign(char sign) {
-            return isType(SIGN) && value() == sign;
+            return current < values.length && types[current] == SIGN && values[current] == sign;
         }
 
         boolean isWord(String word) {
@@ -1137,7 +1137,7 @@ public final class ByteViews {
         /** Always false, for a caller to hand on. */
         boolean refuse(int fault) {
             faultNumber = fault;
-            faultPlace = place();
+            faultPlace = current < places.length ? places[current] : NONE;
             return false;
         }
 

@@ -102,7 +102,7 @@ public final class FaceTest {
             }
             if (line.equals("    }") || line.equals("        }")) {
                 Feeder.due("the method that ends at line " + (n + 1) + " is short",
-                    n - begin <= MOST_LINES || rest.isEmpty(), true);
+                    n - begin <= MOST_LINES, true);
                 begin = n;
             }
         }
