@@ -1315,11 +1315,8 @@ public final class ByteViews {
                 return tokens.refuse(FAULT_MANY);
             }
             tokens.advance();
-            if (!tokens.takeSign(':')) {
+            if (!tokens.takeSign(':') || !holdsBit(view)) {
                 return false;
-            }
-            if (!tokens.isNumber()) {
-                return tokens.refuse(FAULT_PLACE);
             }
             int low = (int) tokens.value();
             tokens.advance();
@@ -1327,15 +1324,26 @@ public final class ByteViews {
         }
 
         private boolean takeHigh(View view, long name, int low) {
-            if (!tokens.isNumber()) {
-                return tokens.refuse(FAULT_PLACE);
+            if (!holdsBit(view)) {
+                return false;
             }
             int high = (int) tokens.value();
-            if (high >= 8 * view.kind.bytes || high < low || high - low >= MOST_FIELD_BITS) {
+            if (high < low || high - low >= MOST_FIELD_BITS) {
                 return tokens.refuse(FAULT_NUMBER);
             }
             view.addField(name, low, high);
             tokens.advance();
+            return true;
+        }
+
+        /** Looked at for each of a field's two numbers, so that the first by its place is told. */
+        private boolean holdsBit(View view) {
+            if (!tokens.isNumber()) {
+                return tokens.refuse(FAULT_PLACE);
+            }
+            if (tokens.value() >= 8 * view.kind.bytes) {
+                return tokens.refuse(FAULT_NUMBER);
+            }
             return true;
         }
     }

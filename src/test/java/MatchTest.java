@@ -322,6 +322,7 @@ public final class MatchTest {
                 int low = random.nextInt(8 * bytes);
                 int high = low + random.nextInt(8 * bytes - low);
                 high = odd(20) || high - low > 62 ? random.nextInt(70) : high;
+                low = odd(20) ? random.nextInt(70) : low;
                 String field = odd(20) ? pick(NAMES) : NAMES[f % 10];
                 s.append((f > 0 ? "," : "") + tight() + field + tight() + ":" + tight() + low + "-" + high);
             }

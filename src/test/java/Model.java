@@ -753,12 +753,15 @@ final class Model {
                 need(':');
                 String number = aheadNumber();
                 f.low = Integer.parseInt(number);
+                int bits = 8 * w.bytes();
+                if (f.low >= bits) {
+                    throw wrong(3);
+                }
                 pos += number.length();
                 need('-');
                 number = aheadNumber();
                 f.high = Integer.parseInt(number);
-                int bits = 8 * w.bytes();
-                if (f.low >= bits || f.high >= bits || f.high < f.low || f.high - f.low + 1 > 63) {
+                if (f.high >= bits || f.high < f.low || f.high - f.low + 1 > 63) {
                     throw wrong(3);
                 }
                 pos += number.length();

@@ -243,7 +243,27 @@ public final class PromiseTest {
         viewFault("a u8 at 0 {b:0-1,b:2-3};", 2, 17);
         viewFault("a u8 at 0 {b:0-1};c u8 at 0{b:0-1};", 0, -1);
         viewFault("a u8 at 0 {b:0-8};", 3, 15);
-        viewFault("a u8 at 0 {b:8-9};", 3, 15);
+        viewFault("a u8 at 0 {b:8-9};", 3, 13);
+        viewFault("a u8 at 0 {b:8-2};", 3, 13);
+        viewFault("a u8 at 0 {b:8!", 3, 13);
+        viewFault("a u8 at 0 {b:999", 3, 13);
+        viewFault("a u8 at 0 {b:1000-1};", 1, 13);
+        viewFault("a u8 at 0 {b:7!8};", 1, 14);
+        viewFault("a u8 at 0 {b:7-1000};", 1, 15);
+        viewFault("a u8 at 0 {b:0-7,c:008-9};", 3, 19);
+        viewFault("a u8 at 0 {b:7-7,c:007-007};", 0, -1);
+        String[] kinds = {"u8", "s8", "u16", "s16", "u32", "s32", "s64"};
+        int[] bits = {8, 8, 16, 16, 32, 32, 64};
+        for (int k = 0; k < kinds.length; k++) {
+            String head = "a " + kinds[k] + " at 0 {b:";
+            int last = bits[k] - 1;
+            int dash = head.length() + String.valueOf(last).length();
+            viewFault(head + last + "-" + last + "};", 0, -1);
+            viewFault(head + bits[k] + "-" + bits[k] + "};", 3, head.length());
+            viewFault(head + bits[k] + "-0};", 3, head.length());
+            viewFault(head + last + "-" + bits[k] + "};", 3, dash + 1);
+            viewFault(head + last + "-" + (last - 1) + "};", 3, dash + 1);
+        }
         viewFault("a u8 at 0 {b:3-2};", 3, 15);
         viewFault("a u8 at 0 {b:3-3};", 0, -1);
         viewFault("a u32 at 0 {b:0-31};", 0, -1);
