@@ -63,38 +63,19 @@ public final class PromiseTest {
     }
 
     private static void bytes(String what, ByteViews x, int from, int... want) {
-        for (int i = 0; i < want.length; i++) {
-            due(what + ": at(" + (from + i) + ")", x.at(from + i), want[i]);
-        }
+        Feeder.bytes(what, x, from, want);
     }
 
     private static void pokes(ByteViews x, int from, int... values) {
-        for (int i = 0; i < values.length; i++) {
-            x.poke(from + i, values[i]);
-        }
+        Feeder.pokes(x, from, values);
     }
 
     private static void viewFault(String text, int number, int place) {
-        ByteViews x = new ByteViews();
-        Feeder.views(x, "keep u8 at 0;");
-        due("views of " + text, Feeder.views(x, text), number == 0 ? x.look(1) : -1);
-        due("fault(0) of " + text, x.fault(0), number);
-        due("fault(1) of " + text, x.fault(1), place);
-        due("tape behind " + text, x.look(4), 0);
-        if (number != 0) {
-            due("views behind " + text, Feeder.named(x, "keep"), 0);
-        }
+        Feeder.viewFault(64, text, number, place);
     }
 
     private static void scriptFault(String text, int number, int place) {
-        ByteViews x = Feeder.with("a u8 at 0 x 4; b u8 at 4 {lo:0-3,a:4-7}; f f32 at 8;");
-        due("script " + text, Feeder.script(x, text) == -1, number != 0);
-        due("fault(0) of " + text, x.fault(0), number);
-        due("fault(1) of " + text, x.fault(1), place);
-        due("tape behind " + text, x.look(4), 0);
-        if (number != 0) {
-            due("nothing is done by " + text, x.look(6), 0);
-        }
+        Feeder.scriptFault("a u8 at 0 x 4; b u8 at 4 {lo:0-3,a:4-7}; f f32 at 8;", text, number, place);
     }
 
     private static void newObject() {
