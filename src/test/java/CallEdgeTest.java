@@ -190,6 +190,17 @@ public final class CallEdgeTest {
         due("the first 10", x.end(10), true);
         due("ten are left", x.look(4), 10);
         due("those", x.views(), 1);
+        Feeder.put(x, "abcdefg");
+        x.end(1);
+        due("a word that is cut", x.named(), 0);
+        Feeder.put(x, "abcdefg");
+        x.end(6);
+        x.views();
+        due("a word that is no longer too long", x.fault(1), 6);
+        Feeder.put(x, "a u8 at 0000");
+        x.end(11);
+        x.views();
+        due("a number that is no longer too long", x.fault(1), 11);
         due("end(0) of none", x.end(0), true);
         x.feed(1, 2, 3, 4, 5);
         due("end(0)", x.end(0), true);
@@ -372,6 +383,10 @@ public final class CallEdgeTest {
                 due("view(" + v + ", " + what + ")", x.view(v, what), want[v][what]);
             }
         }
+        ByteViews y = Feeder.with("a u8 at 0;b s8 at 0;c u16 at 0;d s16 at 0;e u32 at 0;f s32 at 0;g s64 at 0;h f32 at 0;i f64 at 0;");
+        for (int v = 0; v < 9; v++) {
+            due("the kind " + v, y.view(v, 0), v);
+        }
         sentence("9: .. NONE if there is none such, or another what");
         noSuchView(5, v -> x.view(v, 0) == -1);
         int[] others = {-1, 7, 8, MAX, MIN};
@@ -399,7 +414,7 @@ public final class CallEdgeTest {
         due("a digit", Feeder.named(y, "f6"), 1);
         sentence("10: .. NONE: there is none");
         String[] none = {"", " ", "\n", "q", "aa", "a b", "a a", "a;", ";a", "(a)", "a1", "1", "1a", "a\t", "\u0000a", "A", "u8", "big", "a.b", "a 1", "ab cd", "abcdefg",
-            "aaaaaaaaaaaaaaaa"};
+            "aaaaaaaaaaaaaaaa", "97", "a 97", "112"};
         for (String text : none) {
             due("named of <" + text + ">", Feeder.named(x, text), -1);
             due("the tape is empty behind <" + text + ">", x.look(4), 0);
@@ -654,6 +669,10 @@ public final class CallEdgeTest {
         due("of a ro", x.seen(3, 0), 2);
         due("one that has none", x.seen(4, -1), 0);
         due("the first that it has", x.seen(4, 0), -1);
+        x.poke(22, 1);
+        due("right behind its last", x.seen(4, -1), 0);
+        x.poke(19, 1);
+        due("right ahead of its first", x.seen(4, -1), 0);
         x.poke(12, 1);
         due("between strides", x.seen(3, -1), 0);
         x.fill(1, 7);

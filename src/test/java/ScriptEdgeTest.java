@@ -31,6 +31,7 @@ public final class ScriptEdgeTest {
         numbersOfScripts();
         namesOfNothing();
         sixthOpen();
+        fullTape();
         readAhead();
         fromTheLeft();
         wholes();
@@ -441,6 +442,29 @@ public final class ScriptEdgeTest {
             "a=(((((^(", "a[(((((^(0))))))]=1;", "a=(a[((((^(0)))))]);", "if (((((^(1)))))) a=1;", "(((((a=1;^()))))", "((((()(^(",
             "(((((if 1 ^(fail;))))))", "(((((a[^(0)]=1;)))))", "()((((()(^(");
         Feeder.scriptsMarked(views, 1, "(((((^");
+        ByteViews x = Feeder.with(views);
+        due("a fault with five open", Feeder.script(x, "((((((a=1;"), -1);
+        due("none is open then", Feeder.script(x, "(((((a=1;)))))"), 1);
+        due("a trouble with five open", Feeder.script(x, "(((((fail;)))))"), 0);
+        due("none is open then", Feeder.script(x, "a=(((((2)))));"), 1);
+        due("another fault with five open", Feeder.script(x, "a=(((((2"), -1);
+        due("five again", Feeder.script(x, "(((((a=3;)))))"), 1);
+    }
+
+    private static void fullTape() {
+        sentence("THE TAPE (500 bytes): all of a SCRIPT that fills it is done");
+        ByteViews x = Feeder.with("a s64 at 0 x 2;");
+        x.write(0, 0, 1);
+        String[] texts = {"a=" + "a+".repeat(248) + "a;", "a=" + "-".repeat(496) + "5;", "()".repeat(248) + "a=7;", "a=1;".repeat(124) + "a=9;",
+            "if 1".repeat(124) + "a=8;", "(a=a+1;)".repeat(62) + "a=a;", "a=" + "1<1+1*a[".repeat(54) + "0" + "]".repeat(54) + ";" + " ".repeat(10),
+            "a[" + "-".repeat(493) + "0]=6;", " ".repeat(496) + "a=3;"};
+        long[] counts = {1, 1, 1, 125, 1, 63, 1, 1, 1};
+        long[] values = {249, 5, 7, 9, 8, 70, 0, 6, 3};
+        for (int n = 0; n < texts.length; n++) {
+            due("length of text " + n, texts[n].length(), 500);
+            due("text " + n, Feeder.script(x, texts[n]), counts[n]);
+            due("what text " + n + " gave", x.peek(0, 0), values[n]);
+        }
     }
 
     private static void readAhead() {
@@ -537,6 +561,13 @@ public final class ScriptEdgeTest {
         floating("7.0 / 2", 3.5);
         floating("7 - 0.5", 6.5);
         floating("0.5 - 7", -6.5);
+        floating("-7 / -2.0", 3.5);
+        floating("7 / -2.0", -3.5);
+        floating("-7 * -0.5", 3.5);
+        floating("7 * -0.5", -3.5);
+        floating("1 / 3.0", 1 / 3.0);
+        floating("0.1 * 0.3", 0.1 * (3 / 10.0));
+        floating("max * 1.1", MAX * (1 + 1 / 10.0));
         floating("1 / 0.0", Double.POSITIVE_INFINITY);
         floating("1.0 / 0", Double.POSITIVE_INFINITY);
         floating("-1 / 0.0", Double.NEGATIVE_INFINITY);
@@ -571,9 +602,11 @@ public final class ScriptEdgeTest {
     private static void comparisons() {
         sentence("< > ~ are 1 or 0 (WHOLE)");
         String[] one = {"1 < 2", "2 > 1", "2 ~ 2", "min < max", "max > min", "1 < 1.5", "1.5 > 1", "1 ~ 1.0", "1.0 ~ 1", "0.0 ~ zero", "0 ~ zero",
-            "neg < inf", "inf ~ inf", "inf > max", "neg < min", "-1 < 0"};
+            "neg < inf", "inf ~ inf", "inf > max", "neg < min", "-1 < 0", "0.0 < 0.5",
+            "-0.5 < 0.0", "0.5 > zero", "zero > -0.5", "0 < 0.5", "0.5 > 0", "neg < 0.0", "inf > zero"};
         String[] none = {"2 < 1", "1 > 2", "1 ~ 2", "2 < 2", "2 > 2", "max < min", "1.5 < 1", "1 > 1.5", "1 ~ 1.5", "zero < 0", "0 > zero", "zero < 0.0",
-            "nan ~ nan", "nan < 1", "nan > 1", "1 < nan", "1 > nan", "nan ~ 0", "inf < inf", "inf > inf", "max ~ min", "0 < -1"};
+            "nan ~ nan", "nan < 1", "nan > 1", "1 < nan", "1 > nan", "nan ~ 0", "inf < inf", "inf > inf", "max ~ min", "0 < -1",
+            "0.0 > 0.5", "-0.5 > 0.0", "0.5 < zero", "zero < -0.5", "0.5 ~ 0.0", "0.0 ~ 0.5", "0.0 > zero"};
         for (String expression : one) {
             whole(expression, 1);
         }
