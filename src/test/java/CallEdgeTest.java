@@ -47,6 +47,7 @@ public final class CallEdgeTest {
         rest();
         undo();
         look();
+        manyCalls();
         Feeder.finish();
     }
 
@@ -970,16 +971,18 @@ public final class CallEdgeTest {
             {"abcdef s8 at 192 x 64 by 001 ro", "abcdef s8 at 192 x 64 ro"}, {"a u8 at 0 { b : 0 - 7 }", "a u8 at 0{b:0-7}"},
             {"z9 s16 at 7 x 3 by 10 reads{abcdef:00-015,c:9-10,d:10-10}", "z9 s16 at 7 x 3 by 10 reads{abcdef:0-15,c:9-10,d:10-10}"},
             {"a s32 at 1{b:31-31}", "a s32 at 1{b:31-31}"}, {"a s64 at 1{b:1-63,c:0-62}", "a s64 at 1{b:1-63,c:0-62}"}};
+        for (String[] t : told) {
+            ByteViews y = new ByteViews();
+            y.memory(256);
+            String want = t[1] == null ? "a f64 big at 0 x 4 by 64 reads" : t[1];
+            Feeder.views(y, t[0] + ";");
+            due("length of " + want, y.show(0), want.length());
+            Feeder.due("shown of " + t[0], Feeder.shown(y, 0), want);
+            due("it can be told again", Feeder.views(y, want + ";"), 1);
+            Feeder.due("shown again of " + t[0], Feeder.shown(y, 0), want);
+        }
         ByteViews x = new ByteViews();
         x.memory(256);
-        for (String[] t : told) {
-            String want = t[1] == null ? "a f64 big at 0 x 4 by 64 reads" : t[1];
-            Feeder.views(x, t[0] + ";");
-            due("length of " + want, x.show(0), want.length());
-            Feeder.due("shown of " + t[0], Feeder.shown(x, 0), want);
-            due("it can be told again", Feeder.views(x, want + ";"), 1);
-            Feeder.due("shown again of " + t[0], Feeder.shown(x, 0), want);
-        }
         StringBuilder fields = new StringBuilder("abcdef s64 big at 199 x 50 by 1 reads{");
         for (char c = 'a'; c < 'i'; c++) {
             fields.append(c == 'a' ? "" : ",").append(c).append("bcdef:10-63");
@@ -1212,5 +1215,23 @@ public final class CallEdgeTest {
         for (int what : others) {
             due("look(" + what + ")", x.look(what), -1);
         }
+    }
+
+    private static void manyCalls() {
+        sentence("An object is used for at most 512 calls after it has been made");
+        ByteViews x = new ByteViews();
+        for (int n = 1; n <= 503; n++) {
+            due("call " + n, x.poke(n % 64, n), true);
+        }
+        for (int n = 503; n > 495; n--) {
+            due("undoing call " + n, x.undo(), true);
+        }
+        due("the 512th call", x.at(495 % 64), 495 & 255);
+        ByteViews y = Feeder.with("a s64 at 0;");
+        for (int n = 1; n <= 240; n++) {
+            y.feed(0x613d612b, 0x313b613d, 0x612b313b, 0x613d612b, 0x313b2020);
+            due("script " + n, y.script(), 3);
+        }
+        due("what 240 scripts did", y.peek(0, 0), 720);
     }
 }

@@ -14,6 +14,10 @@ public final class MatchTest {
         -1e19, 1e38, 1e39, 1e-38, 1e-45, 1e300, 1e-300, 4.9e-324, Double.MAX_VALUE, Double.NaN,
         Double.POSITIVE_INFINITY, Double.NEGATIVE_INFINITY, 3.4028235677973366e38, 0.1};
 
+    // What an object answers behind so many calls is free.
+    private static final int MOST_CALLS = 512;
+    private static final int LATEST_ACT = 440;
+
     private final Random random;
     private final ByteViews real = new ByteViews();
     private final Model model = new Model();
@@ -56,14 +60,17 @@ public final class MatchTest {
             tell(viewsText());
             faults[model.fault(0)]++;
         }
-        while (calls < 480 && good) {
+        while (calls < LATEST_ACT && good) {
             act(faults, troubles);
             for (int i = random.nextInt(4); i > 0 && good; i--) {
                 observe();
             }
         }
-        for (int k = -1; k <= model.look(0) && good; k++) {
-            same("at(" + k + ")", real.at(k), model.at(k));
+        int bytes = model.look(0);
+        int start = random.nextInt(bytes);
+        for (int k = 0; k < bytes && calls < MOST_CALLS && good; k++) {
+            int offset = (start + k) % bytes;
+            same("at(" + offset + ")", real.at(offset), model.at(offset));
         }
     }
 

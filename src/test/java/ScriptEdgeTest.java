@@ -793,7 +793,8 @@ public final class ScriptEdgeTest {
     }
 
     private static ByteViews changing() {
-        ByteViews x = Feeder.with("a u16 at 0 x 3; r u16 at 8 x 2 reads; b u8 at 16 x 4; k u8 at 20 ro; l u16 at 30 x 3 by 1; f f32 at 40;");
+        ByteViews x = Feeder.with("a u16 at 0 x 3; r u16 at 8 x 2 reads; b u8 at 16 x 4; k u8 at 20 ro; l u16 at 30 x 3 by 1; f f32 at 40;"
+            + "s s16 at 6 x 2;");
         Feeder.pokes(x, 0, 3, 0, 2, 0, 1, 0);
         Feeder.pokes(x, 8, 7, 0, 0, 9);
         Feeder.pokes(x, 16, 4, 3, 2, 1);
@@ -817,6 +818,24 @@ public final class ScriptEdgeTest {
         }
     }
 
+    /** One of the calls that tell changes, so that there are none. */
+    private static void changeNone(ByteViews x, int which) {
+        switch (which) {
+            case 0 -> Feeder.script(x, "");
+            case 1 -> Feeder.script(x, "fail;");
+            case 2 -> x.read(0, 0);
+            case 3 -> x.write(0, 0, 65539);
+            case 4 -> x.writeFloat(0, 0, bits(3.5));
+            case 5 -> x.poke(0, 259);
+            case 6 -> x.copy(4, 4);
+            case 7 -> x.fill(4, 0);
+            case 8 -> x.roll(0, 3);
+            case 9 -> x.turn(2);
+            case 10 -> x.sort(6);
+            default -> x.read(6, 0);
+        }
+    }
+
     private static void changes() {
         sentence("CHANGES: offsets, rising, of BYTES that are others than ahead of the latest script(), read(), write(), writeFloat(), poke(), copy(), fill(), roll(), turn(), sort(), undo()");
         int[][] want = {{0, 1, 4}, {11}, {3}, {42, 43}, {63}, {0, 2, 4}, {16, 18, 19}, {16, 17, 18, 19}, {0, 1, 2, 3, 4, 5}, {0, 4}, {19}};
@@ -830,6 +849,12 @@ public final class ScriptEdgeTest {
             due("no more by call " + which, x.changed(want[which].length), -1);
             x.poke(63, x.at(63));
             due("none behind one that changes none", x.changed(-1), 0);
+        }
+        for (int which = 0; which < 12; which++) {
+            ByteViews x = changing();
+            due("one ahead of call " + which, x.changed(-1), 1);
+            changeNone(x, which);
+            due("none behind call " + which, x.changed(-1), 0);
         }
         ByteViews x = changing();
         Feeder.script(x, "a = 9; a = 3;");
