@@ -34,9 +34,31 @@ public final class FloatsTest {
             double a = number();
             check(a, RANDOM.nextInt(3) == 0 ? near(a) : number());
         }
+        besideTies();
         wholes();
         numbers();
         Feeder.finish();
+    }
+
+    /** Products whose last bits are half a digit, or half a digit and the least that there can be beside it. */
+    private static void besideTies() {
+        for (int i = 0; i < 600 && Feeder.wrong() < 20; i++) {
+            long a = RANDOM.nextLong() >>> 12 | 1L << 52 | 1;
+            int gone = 52 + i % 2;
+            long wanted = (1L << gone - 1) + RANDOM.nextInt(3) - 1;
+            long b = wanted * inverse(a) & (1L << gone) - 1;
+            check(a, b);
+            check(a, (double) b * 0x1p-60);
+        }
+    }
+
+    /** What an odd number gives 1 with, as longs wrap; each turn doubles the bits that are right. */
+    private static long inverse(long a) {
+        long x = a;
+        for (int i = 0; i < 6; i++) {
+            x *= 2 - a * x;
+        }
+        return x;
     }
 
     private static double number() {
