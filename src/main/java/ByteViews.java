@@ -1320,11 +1320,7 @@ public final class ByteViews {
             }
             int low = (int) tokens.value();
             tokens.advance();
-            return tokens.takeSign('-') && takeHigh(view, name, low);
-        }
-
-        private boolean takeHigh(View view, long name, int low) {
-            if (!holdsBit(view)) {
+            if (!tokens.takeSign('-') || !holdsBit(view)) {
                 return false;
             }
             int high = (int) tokens.value();
